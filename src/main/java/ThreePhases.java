@@ -489,10 +489,13 @@ public final class ThreePhases {
         }
 
         boolean has(int sort, int k) {
-            return k >= 0 && k < TEXTS && k < sizes[sort];
+            return sort >= 0 && sort < SORTS && k >= 0 && k < TEXTS && k < sizes[sort];
         }
 
         void put(int sort, int slot, Reader from) {
+            if (sort < 0 || sort >= SORTS || slot < 0 || slot >= TEXTS) {
+                return;
+            }
             if (sort == COUNCIL_SORT) {
                 councils[slot].take(from.council);
             } else if (sort == RUN_SORT) {
@@ -626,7 +629,7 @@ public final class ThreePhases {
         }
 
         void runOrder(int order, int[] purse) {
-            if (order >= 0 && order < orders) {
+            if (order >= 0 && order < orders && order < ORDERS) {
                 int account = orderAccounts[order];
                 purse[account] = (purse[account] + orderPlus[order]) % HUNDRED;
             }
@@ -783,7 +786,7 @@ public final class ThreePhases {
             }
         }
 
-        /** Only the first FAULT stays: lines are read by place. */
+        /** Only the first FAULT stays: lines are read in the order of their places. */
         private void note(int sign, int place) {
             if (fault == 0) {
                 fault = sign;
@@ -1153,9 +1156,11 @@ public final class ThreePhases {
         }
 
         void accept(int place, int order) {
-            accepted[place] = order;
-            prepares[place] = 0;
-            commits[place] = 0;
+            if (isPlace(place)) {
+                accepted[place] = order;
+                prepares[place] = 0;
+                commits[place] = 0;
+            }
         }
 
         boolean isPrepared(int place) {
@@ -1168,6 +1173,9 @@ public final class ThreePhases {
 
         /** A PLACE that is PREPARED becomes the PROOF, and this MEMBER one of its COMMITS. */
         void addPrepares(int place, int bits, int self) {
+            if (!hasAccepted(place)) {
+                return;
+            }
             prepares[place] |= bits;
             if (Integer.bitCount(prepares[place]) >= quorumSize) {
                 proofViews[place] = view;
@@ -1177,7 +1185,8 @@ public final class ThreePhases {
         }
 
         boolean sharesAt(Member other, int place) {
-            return active && view == other.view && hasAccepted(place) && accepted[place] == other.accepted[place];
+            return active && view == other.view && hasAccepted(place)
+                && accepted[place] == other.accepted[place];
         }
 
         /** If a QUORUM of VOTES are alike above LOW, the log is cut there. */
@@ -1282,12 +1291,16 @@ public final class ThreePhases {
         void draw(Council told, int seed, int n) {
             begin(told);
             draws = seed;
-            for (int k = 0; k < n; k++) {
+            for (int k = 0; k < n && k < DRAWS; k++) {
                 int sort = below(10);
                 int a = below(seats);
                 int b = seats > 1 ? (a + 1 + below(seats - 1)) % seats : 0;
                 int place = 1 + below(PLACES);
-                actDrawn(sort, a, b, place);
+                if (sort < 2) {
+                    act(PROPOSE, a, place, below(10));
+                } else {
+                    act(drawnKind(sort, sort == 8 ? below(4) : 0), a, b, place);
+                }
             }
         }
 
@@ -1296,34 +1309,22 @@ public final class ThreePhases {
             return n > 0 ? (draws >>> 16) % n : 0;
         }
 
-        private void actDrawn(int sort, int a, int b, int place) {
+        /** Of all numbers but those of propose, which takes an ORDER. */
+        private static int drawnKind(int sort, int more) {
             switch (sort) {
-                case 0:
-                case 1:
-                    act(PROPOSE, a, place, below(10));
-                    break;
                 case 2:
-                case 3:
-                    act(PREPARE, a, b, place);
-                    break;
+                case 3: return PREPARE;
                 case 4:
-                case 5:
-                    act(COMMIT, a, b, place);
-                    break;
-                case 6:
-                    act(RUN, a, NONE, NONE);
-                    break;
-                case 7:
-                    act(MARK, a, b, NONE);
-                    break;
-                case 8:
-                    int which = below(4);
-                    act(which == 0 ? FETCH : which == 1 ? DOUBT : VIEW, a, b, NONE);
-                    break;
-                default:
-                    act(ENTER, a, NONE, NONE);
-                    break;
+                case 5: return COMMIT;
+                case 6: return RUN;
+                case 7: return MARK;
+                case 9: return ENTER;
+                default: break;
             }
+            if (more == 0) {
+                return FETCH;
+            }
+            return more == 1 ? DOUBT : VIEW;
         }
 
         /** Does a DEED, if it may be: whether it was done. */
@@ -1510,7 +1511,7 @@ public final class ThreePhases {
                 return;
             }
             int both = 1 << m | 1 << primaryOf(self.view);
-            for (int s = made.from + 1; s <= made.upto; s++) {
+            for (int s = made.from + 1; s <= made.upto && s <= PLACES; s++) {
                 if (self.isWithin(s)) {
                     self.accept(s, made.orders[s]);
                     self.addPrepares(s, both, m);
@@ -1692,7 +1693,8 @@ public final class ThreePhases {
             int words = 0;
             for (int m = 0; m < seats; m++) {
                 for (int s = 1; s <= PLACES && isHonest(m); s++) {
-                    words += Integer.bitCount(members[m].prepares[s]) + Integer.bitCount(members[m].commits[s]);
+                    words += Integer.bitCount(members[m].prepares[s]);
+                    words += Integer.bitCount(members[m].commits[s]);
                 }
             }
             return words;
@@ -1709,7 +1711,7 @@ public final class ThreePhases {
         }
 
         private static boolean isFull(Member self) {
-            for (int s = self.low + 1; self.isWithin(s); s++) {
+            for (int s = self.low + 1; s <= PLACES && self.isWithin(s); s++) {
                 if (!self.hasAccepted(s)) {
                     return false;
                 }
@@ -1843,7 +1845,7 @@ public final class ThreePhases {
                 return 0;
             }
             int first = NEVER;
-            for (int s = place; s <= ORDERS; s++) {
+            for (int s = place; s <= ORDERS && member >= 0 && member < SEATS; s++) {
                 first = Math.min(first, cut[member][s]);
             }
             return first;
@@ -1873,7 +1875,8 @@ public final class ThreePhases {
         }
 
         int doneAt(int place) {
-            for (int m = 0; m < SEATS; m++) {
+            Arrays.fill(row, NEVER);
+            for (int m = 0; m < SEATS && place >= 1 && place <= ORDERS; m++) {
                 row[m] = ran[m][place];
             }
             return least(council.faults + 1);
