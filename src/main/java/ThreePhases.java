@@ -1431,7 +1431,8 @@ public final class ThreePhases {
         private boolean mark(int a, int b) {
             Member self = members[b];
             Member voter = isHonest(a) ? members[a] : self;
-            if (voter.checkpoint == NONE || voter.checkpoint <= self.low) {
+            // No CHECKPOINT is NONE, which is below any LOW.
+            if (voter.checkpoint <= self.low) {
                 return false;
             }
             int root = sums.rootOf(voter.savedAccounts);
@@ -1776,11 +1777,10 @@ public final class ThreePhases {
             }
         }
 
-        /** What 0 proposes is its PREPARE too, and is there as soon as one ACCEPTS. */
+        /** What 0 proposes is its PREPARE too: nobody ACCEPTS before that has come. */
         private void prepareAll(int s) {
             for (int m = 0; m < council.members(); m++) {
                 fillRow(accepted, m, s);
-                row[0] = accepted[m][s];
                 if (council.isHonest(m)) {
                     prepared[m][s] = bounded(Math.max(accepted[m][s], quorumth()));
                 }

@@ -2,9 +2,8 @@
 public final class RunsTest {
     private static final int NONE = ThreePhases.NONE;
     /** PLACE 1 is COMMITTED at 0, 1, 2, and they RUN it: 16 DEEDS. */
-    private static final String FIRST = "propose 0 1 0;propose 1 1 0;propose 2 1 0;"
-        + "prepare 1 0 1;prepare 2 0 1;prepare 2 1 1;prepare 1 2 1;"
-        + "commit 1 0 1;commit 2 0 1;commit 0 1 1;commit 2 1 1;commit 0 2 1;commit 1 2 1;run 0;run 1;run 2;";
+    private static final String FIRST = agreed(1);
+    private static final String SECOND = agreed(2);
     private static final String MARKS = "mark 0 3;mark 1 3;mark 2 3;";
 
     public static void main(String[] args) {
@@ -27,6 +26,14 @@ public final class RunsTest {
         Kit.finish("RunsTest");
     }
 
+    /** A PLACE with ORDER 0 is COMMITTED at 0, 1, 2, and they RUN it. */
+    private static String agreed(int place) {
+        String words = "propose 0 s 0;propose 1 s 0;propose 2 s 0;"
+            + "prepare 1 0 s;prepare 2 0 s;prepare 2 1 s;prepare 1 2 s;"
+            + "commit 1 0 s;commit 2 0 s;commit 0 1 s;commit 2 1 s;commit 0 2 s;commit 1 2 s;run 0;run 1;run 2;";
+        return words.replace(" s", " " + place);
+    }
+
     private static int stop(String council, String run) {
         return Kit.with(council, run).stop(0, 0);
     }
@@ -45,6 +52,11 @@ public final class RunsTest {
         Kit.due("a LIAR takes none", stop(two + "liar 1;", "propose 0 1 0;propose 1 1 0;"), 1);
         Kit.due("a lying PRIMARY tells anything", stop(two + "liar 0;", "propose 1 1 0;propose 2 1 1;"), 2);
         Kit.due("not ACTIVE", stop(two, "doubt 0;propose 0 1 0;"), 1);
+        String later = "propose 0 1 0;propose 1 1 0;propose 3 1 0;prepare 1 0 1;prepare 3 0 1;"
+            + "doubt 0;doubt 1;doubt 3;view 1;";
+        Kit.due("a PRIMARY that has it in a later VIEW", stop(two, later + "propose 2 1 0;"), 9);
+        Kit.due("A that has it in a later VIEW", stop(two, "propose 0 1 0;propose 2 1 0;"
+            + later.substring(14) + "prepare 3 2 1;"), 10);
         Kit.due("a PRIMARY in another VIEW", stop(two, "propose 0 1 0;doubt 0;propose 1 1 0;"), 2);
         ThreePhases x = Kit.with(two, "propose 0 1 1;propose 1 1 1;");
         Kit.due("ACCEPTED", x.state(0, 0, 2, 1, 100), 1);
@@ -146,7 +158,15 @@ public final class RunsTest {
         Kit.due("ROOTS", x.state(0, 0, 20, 3, 4), x.state(0, 0, 20, 0, 4));
         Kit.due("from a LIAR", stop(one + "liar 0;", "fetch 1 0;"), 0);
         // Its CHECKPOINT by fetch() is one that it can send.
-        Kit.due("mark by what was fetched", stop(one, FIRST + MARKS + "fetch 3 1;mark 3 0;mark 1 0;mark 3 1;"), 23);
+        String sent = FIRST + MARKS + "fetch 3 1;mark 3 0;mark 1 0;mark 3 1;";
+        Kit.due("mark by what was fetched", stop(one, sent), 23);
+        Kit.due("a CHECKPOINT that is LOW", stop(one, sent + "mark 2 0;"), 23);
+        Kit.due("PLACE 2", stop(one, FIRST + MARKS + SECOND), 35);
+        Kit.due("a later CHECKPOINT than LOW", stop(one, FIRST + MARKS + SECOND + "fetch 3 0;"), 35);
+        x = Kit.with(one, FIRST + MARKS + "fetch 3 0;" + SECOND + MARKS + "fetch 3 2;");
+        Kit.due("two fetched", x.stop(0, 0), 40);
+        Kit.due("SUMS in all", x.state(0, 0, 40, 3, 5), 14);
+        Kit.due("ACCOUNT", x.state(0, 0, 40, 3, 12), 14);
     }
 
     private static void doubts() {
