@@ -81,6 +81,9 @@ public final class ThreePhases {
     }
 
     public int text(int sort, int at) {
+        int length = told.length;
+        // The tape is taken by every text, by one that is not read, too.
+        told.length = 0;
         told.fault = 0;
         told.faultPlace = NONE;
         if (sort < 0 || sort >= SORTS) {
@@ -90,8 +93,7 @@ public final class ThreePhases {
         if (slot < 0 || slot >= TEXTS || (at != NONE && !told.has(sort, at))) {
             return MISSING;
         }
-        reader.read(told.tape, told.length, sort);
-        told.length = 0;
+        reader.read(told.tape, length, sort);
         told.fault = reader.fault;
         told.faultPlace = reader.faultPlace;
         if (reader.fault != 0) {

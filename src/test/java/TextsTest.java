@@ -14,6 +14,7 @@ public final class TextsTest {
         deeds();
         replies();
         images();
+        tapeInImages();
         Kit.finish("TextsTest");
     }
 
@@ -56,32 +57,60 @@ public final class TextsTest {
         Kit.due("the tape is empty behind a text", x.end(1), NONE);
     }
 
+    /** Tells a text where there is no room for it: -2, no FAULT, and the tape is taken all the same. */
+    private static void notRead(ThreePhases x, int sort, int at, String text) {
+        String call = "text(" + sort + ", " + at + ")";
+        Kit.due(call, Kit.tell(x, sort, at, text), -2);
+        Kit.due(call + ": fault(0)", x.fault(0), 0);
+        Kit.due(call + ": fault(1)", x.fault(1), NONE);
+        Kit.due(call + ": the tape is empty", x.end(1), NONE);
+        Kit.due(call + ": feed", x.feed(0, 0, 0, 0, 0), 20);
+        Kit.due(call + ": end", x.end(0), 0);
+    }
+
     private static void slots() {
         ThreePhases x = new ThreePhases();
-        Kit.feed(x, "step 3;");
-        Kit.due("text in no place", x.text(0, 0), -2);
-        Kit.due("text(-1, -1)", x.text(-1, NONE), -2);
-        Kit.due("text(3, -1)", x.text(3, NONE), -2);
-        Kit.due("text(0, -2)", x.text(0, -2), -2);
-        Kit.due("the tape stays", x.end(7), 7);
-        Kit.due("text", x.text(0, NONE), 0);
+        notRead(x, 0, 0, "step 3;");
+        notRead(x, -1, NONE, "step 3;");
+        notRead(x, 3, NONE, "step 3;");
+        notRead(x, 0, -2, "step 3;");
+        notRead(x, 1, 0, "no text");
+        notRead(x, 2, 1, "");
+        Kit.due("no COUNCIL of all these", x.count(0), 0);
+        Kit.due("text", Kit.tell(x, 0, NONE, "step 3;"), 0);
         Kit.due("an empty text", x.text(0, NONE), 1);
-        Kit.due("a third", Kit.tell(x, 0, NONE, "step 9;"), -2);
-        Kit.due("its FAULT", x.fault(0), 0);
-        Kit.due("in place of the third", x.text(0, 2), -2);
-        Kit.due("in place of the second", x.text(0, 1), NONE);
+        notRead(x, 0, NONE, "step 9;");
+        notRead(x, 0, 2, "step 9;");
+        Kit.due("no third", x.count(0), 2);
+        Kit.due("in place of the second", Kit.tell(x, 0, 1, "step 9;"), NONE);
         Kit.due("its FAULT", x.fault(0), 2);
         Kit.due("a text with a FAULT is taken", x.end(1), NONE);
         Kit.due("the second stays", x.council(1, 2), 2);
+        Kit.due("the first stays", x.council(0, 2), 3);
+        notRead(x, 7, 7, "step 1;");
         Kit.due("in place of the second", Kit.tell(x, 0, 1, "window 9;"), 1);
         Kit.due("its window", x.council(1, 1), 9);
-        Kit.due("a fault of -2 strikes the one before", x.text(7, 7), -2);
-        Kit.due("fault(0)", x.fault(0), 0);
         Kit.due("count(0)", x.count(0), 2);
         Kit.due("a run", Kit.tell(x, 1, NONE, ""), 0);
         Kit.due("replies", Kit.tell(x, 2, NONE, "\n "), 0);
         Kit.due("count(1)", x.count(1), 1);
         Kit.due("count(2)", x.count(2), 1);
+    }
+
+    /** An image has the tape as it was, also where a text that was not read took it since. */
+    private static void tapeInImages() {
+        ThreePhases x = new ThreePhases();
+        Kit.feed(x, "step 3;");
+        x.image(0);
+        Kit.due("no such place", x.text(0, 0), -2);
+        x.image(1);
+        Kit.due("again(0)", x.again(0), true);
+        Kit.due("the tape as it was", x.end(7), 7);
+        Kit.due("it is a text", x.text(0, NONE), 0);
+        Kit.due("its step", x.council(0, 2), 3);
+        Kit.due("again(1)", x.again(1), true);
+        Kit.due("the tape that was taken", x.end(1), NONE);
+        Kit.due("an image without a COUNCIL", x.count(0), 0);
     }
 
     private static void firstFaults() {
