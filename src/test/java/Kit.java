@@ -4,6 +4,7 @@ import java.nio.charset.StandardCharsets;
 final class Kit {
     private static int checks = 0;
     private static int wrong = 0;
+    private static String stoodFor = "";
 
     private Kit() {
     }
@@ -12,12 +13,21 @@ final class Kit {
         checks++;
         if (got != want) {
             wrong++;
-            System.out.println(call + " answered " + got + ", due is " + want);
+            System.out.println(stoodFor + call + " answered " + got + ", due is " + want);
         }
     }
 
     static void due(String call, boolean got, boolean want) {
         due(call, got ? 1 : 0, want ? 1 : 0);
+    }
+
+    static int checks() {
+        return checks;
+    }
+
+    /** Names what the checks that follow stand for, where one of them is wrong. */
+    static void standFor(String words) {
+        stoodFor = words;
     }
 
     /** Feeds a text whole, and ends the tape behind its last byte. */
