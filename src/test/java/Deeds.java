@@ -9,6 +9,10 @@ final class Deeds {
     static final String FALSE_FIRST = TWO + "liar 0;liar 3;";
     static final String ALONE = TWO + "faults 0;";
 
+    /** By FALSE_HEADS 3 has a PROOF of ORDER 0 at PLACE 1 in VIEW 0, and 0 one of ORDER 1 in VIEW 1. */
+    static final String TURNED = "propose 0 1 0;propose 3 1 0;prepare 1 3 1;" + doubts(0, 1, 2)
+        + "view 1;propose 0 1 1;prepare 2 0 1;";
+
     private Deeds() {
     }
 

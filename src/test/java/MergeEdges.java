@@ -4,6 +4,9 @@ final class MergeEdges {
     private static final int[] FAR_OFF = {-1, 1, 2, Integer.MIN_VALUE, Integer.MAX_VALUE};
     /** 0 has PROOFS at 1 and 3, of ORDERS 0 and 1. */
     private static final String GAP = Deeds.prepared(0, 1, 0, 2, 3) + Deeds.prepared(0, 3, 1, 2, 3);
+    /** One alone has LOW 4 and a PROOF at PLACE 12. */
+    private static final String WIDE = Deeds.ALONE + "window 9;step 4;";
+    private static final String LAST = "propose 0 1 0;propose 0 2 0;propose 0 3 0;propose 0 4 0;run 0;propose 0 12 1;";
     /** 1 and 2 have PROOFS of unlike ORDERS at PLACE 1. */
     private static final String UNLIKE = "propose 1 1 0;prepare 3 1 1;propose 2 1 1;prepare 3 2 1;";
     /** 0 and 3 have PROOFS of ORDER 0 at PLACE 1, but of unlike VIEWS. */
@@ -68,19 +71,27 @@ final class MergeEdges {
         Kit.due("of one", merged(Deeds.FALSE_FIRST, UNLIKE, 4, 11), 1);
         String greater = TWO_VIEWS.replace("propose 3 1 0", "propose 3 1 1");
         Kit.due("the greatest VIEW", merged(Deeds.FALSE_HEADS, greater, 9, 11), 1);
+        Kit.due("the greatest VIEW, of a MEMBER ahead", merged(Deeds.FALSE_HEADS, Deeds.TURNED, 9, 11), 1);
         Kit.due("an older VIEW alone", merged(Deeds.FALSE_HEADS, greater, 1, 11), 0);
+        ThreePhases y = Kit.with(Deeds.FALSE_HEADS, greater);
+        Kit.due("both", y.merged(0, 0, Deeds.count(greater), 9, 11), 1);
+        Kit.due("then the older one alone", y.merged(0, 0, Deeds.count(greater), 1, 11), 0);
+        Kit.due("UPTO the last PLACE", merged(WIDE, LAST, 1, 1), 12);
+        Kit.due("the ORDER of the last PLACE", merged(WIDE, LAST, 1, 22), 1);
         String lying = Deeds.agreed(0, 1, 0, 1, 2) + "run 0;mark 1 0;mark 2 0;" + Deeds.doubts(0, 1, 2) + "view 1;";
         Kit.due("a LIAR tells LOW 0", merged(Deeds.FALSE_HEADS + "step 1;", lying, 2, 0), 0);
     }
 
     private static void sures() {
-        Doc.says("SURE of a PLACE: the ORDER that it has by MERGED of each set of as many MEMBERS as a QUORUM, if it is one in all");
+        Doc.says("SURE of a PLACE: the ORDER that it has by MERGED of each set of as many MEMBERS as a QUORUM, "
+            + "if it is one in all");
         String both = "propose 0 1 1;propose 1 1 1;prepare 2 0 1;prepare 3 0 1;";
         Kit.due("one in all", sure(Deeds.PAIR, both + "prepare 2 1 1;", 1), 1);
         Kit.due("not by the set without 0", sure(Deeds.PAIR, both, 1), NONE);
         Kit.due("unlike ones", sure(Deeds.FALSE_FIRST, UNLIKE, 1), NONE);
         Kit.due("of VIEWS 0 and 1, but one ORDER", sure(Deeds.FALSE_HEADS, TWO_VIEWS, 1), 0);
         Kit.due("of one alone", sure(Deeds.ALONE, "propose 0 1 1;", 1), 1);
+        Kit.due("of the last PLACE", sure(WIDE, LAST, 12), 1);
         Kit.due("NOTHING is one", sure(Deeds.ALONE, "propose 0 2 1;", 1), 10);
         Kit.due("five of seven",
             sure("faults 2;order 0 1;liar 3;liar 4;liar 5;liar 6;", "propose 0 1 0;propose 1 1 0;propose 2 1 0;"
@@ -131,6 +142,9 @@ final class MergeEdges {
         Doc.says("BEHIND: HONEST ones (bits) RAN of whom is below LOW;");
         Kit.due("none at first", after(council, "", 0), 0);
         Kit.due("1, which entered; LIARS do not count", after(council, entered, 0), 2);
+        String other = "propose 0 1 0;propose 3 1 0;prepare 1 3 1;commit 1 3 1;commit 2 3 1;run 3;mark 1 3;mark 2 3;"
+            + Deeds.doubts(1, 2, 3) + "view 1;doubt 0;enter 0;";
+        Kit.due("0, which entered", after(Deeds.FALSE_HEADS + "step 1;", other, 0), 1);
         Kit.due("RAN that is LOW", after(council, entered + "fetch 1 0;", 0), 0);
         Kit.due("RAN above LOW", after(Deeds.PAIR, Deeds.agreed(0, 1, 0, 2, 3) + "run 0;", 0), 0);
         Doc.says("STUCK: HONEST ones (bits) that are not ACTIVE;");
@@ -152,6 +166,7 @@ final class MergeEdges {
         Kit.due("unlike ORDERS", after(Deeds.FALSE_FIRST, UNLIKE, 3), 0);
         Kit.due("unlike VIEWS", after(Deeds.FALSE_HEADS, TWO_VIEWS, 3), 0);
         Kit.due("FAULTS 0: one is more", after(Deeds.ALONE, "propose 0 1 0;propose 0 4 0;", 3), 18);
+        Kit.due("of the last PLACE", after(WIDE, LAST, 3), 1 << 12);
         Kit.due("PROOFS stay where one doubts", after(Deeds.ALONE, "propose 0 1 0;doubt 0;", 3), 2);
         Kit.due("not up to LOW", after(Deeds.ALONE, "propose 0 1 0;propose 0 2 0;propose 0 3 0;run 0;", 3), 8);
         Doc.says("WORDS: how many PREPARES, COMMITS there are in all that is ACCEPTED by HONEST ones, together;");
@@ -161,6 +176,7 @@ final class MergeEdges {
         Kit.due("PREPARES and one's own COMMIT", after(Deeds.PAIR, Deeds.prepared(0, 1, 0, 2, 3), 4), 4);
         Kit.due("PREPARES and COMMITS", after(Deeds.PAIR, Deeds.agreed(0, 1, 0, 2, 3), 4), 6);
         Kit.due("at two PLACES", after(Deeds.PAIR, Deeds.agreed(0, 1, 0, 2, 3) + "propose 0 4 1;", 4), 7);
+        Kit.due("at the last PLACE", after(WIDE, LAST, 4), 2);
         Kit.due("no more behind a doubt", after(Deeds.PAIR, Deeds.agreed(0, 1, 0, 2, 3) + "doubt 0;", 4), 0);
         Kit.due("no more up to LOW", after(Deeds.PAIR + "step 1;", Deeds.far(1), 4), 0);
     }

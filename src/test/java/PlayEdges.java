@@ -81,8 +81,8 @@ final class PlayEdges {
         differs("the last", base, base + "account 7 1;", last);
         differs("both ends", base, base + "account 0 99;account 7 99;", ends);
         differs("side by side", base, base + "account 0 11;account 1 41;", side);
-        differs("every one", base, "account 0 1;account 1 1;account 2 1;account 3 1;account 4 1;account 5 1;account 6 1;account 7 1;",
-            every);
+        String ones = "account 0 1;account 1 1;account 2 1;account 3 1;account 4 1;account 5 1;account 6 1;account 7 1;";
+        differs("every one", base, ones, every);
         differs("a ROOT alike by chance", base, "account 0 27;account 1 9;", chance);
         differs("a node alike by chance", base, "account 0 27;account 1 9;account 7 1;", partly);
     }
@@ -143,7 +143,8 @@ final class PlayEdges {
         Kit.due("it waits for their WINDOW", ran(APART + two, 0, 2), 38);
         Kit.due("it does not by a WINDOW of 2", ran(APART + "window 2;" + two, 0, 2), 12);
         Kit.due("two are enough of four with 0", ran("delay 1 2 9;delay 1 3 9;" + ONE, 2, 1), 3);
-        Doc.says("all send COMMIT as soon as they are PREPARED, RUN, as soon as they can, and send their MARK at each CHECKPOINT;");
+        Doc.says("all send COMMIT as soon as they are PREPARED, RUN, as soon as they can, "
+            + "and send their MARK at each CHECKPOINT;");
         Kit.due("messages of one PLACE", pace(ONE, 0), 3 + 9 + 12);
         Kit.due("with a MARK of each", pace("step 1;" + ONE, 0), 3 + 9 + 12 + 12);
         Kit.due("PLACES that are not divided by STEP", pace("step 4;" + ONE.repeat(3), 0), 3 * 24);
@@ -190,6 +191,9 @@ final class PlayEdges {
         Kit.due("of seven", pace("faults 2;" + ONE, 0), 6 + 36 + 42);
         Kit.due("to a LIAR there is none", pace("liar 3;" + ONE, 0), 2 + 4 + 6);
         Kit.due("of one alone", pace("faults 0;step 1;" + ONE.repeat(10), 0), 0);
+        ThreePhases x = Kit.with(ONE);
+        Kit.due("asked for once", x.pace(0, 0), 24);
+        Kit.due("asked for twice", x.pace(0, 0), 24);
         Kit.due("to LIARS alone", pace("liar 1;liar 2;liar 3;" + ONE, 0), 0);
         Kit.due("without ORDERS", pace("", 0), 0);
         Kit.due("by a lying PRIMARY", pace("liar 0;" + ONE, 0), 0);
@@ -217,6 +221,7 @@ final class PlayEdges {
             + "of several the least (one is never DONE, or there are no ORDERS: none);");
         Kit.due("of several the least", pace(ONE.repeat(4), 2), 1);
         Kit.due("the one that waits longest", pace("window 2;step 2;" + ONE.repeat(4), 2), 3);
+        Kit.due("one minute longer than all ahead", pace("window 3;step 1;" + ONE.repeat(4), 2), 4);
         Kit.due("the last", pace("window 1;step 1;" + ONE.repeat(10), 2), 10);
         Kit.due("one is never DONE", pace("window 2;step 3;" + ONE.repeat(3), 2), NONE);
         Kit.due("none is ever DONE", pace("liar 0;" + ONE, 2), NONE);
@@ -274,7 +279,9 @@ final class PlayEdges {
         Kit.due("no ORDERS", Kit.with("").blind(0, 1), 0);
         Doc.says("RICHEST: the ACCOUNT that has most behind all ORDERS, of several the least.");
         Kit.due("of all alike", Kit.with("").blind(0, 2), 0);
-        Kit.due("as told", Kit.with("account 7 1;").blind(0, 2), 7);
+        for (int a = 0; a < 8; a++) {
+            Kit.due("as told, " + a, Kit.with("account " + a + " 1;").blind(0, 2), a);
+        }
         Kit.due("behind all ORDERS", Kit.with("account 7 1;order 6 2;").blind(0, 2), 6);
         Kit.due("behind a wrap", Kit.with("account 7 99;account 2 1;order 7 1;").blind(0, 2), 2);
         Kit.due("of several the least", Kit.with("account 6 5;order 4 5;order 5 4;").blind(0, 2), 4);

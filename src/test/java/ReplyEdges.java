@@ -112,6 +112,10 @@ final class ReplyEdges {
         Kit.due("nobody", lack("", "reply 0 0 1;reply 1 0 2;", 2), 0);
         Kit.due("the same twice", lack("", "reply 0 0 1;reply 0 5 1;", 2), 0);
         Kit.due("unlike", lack("", "reply 0 0 1;reply 3 0 1;reply 3 0 2;reply 0 0 1;", 2), 8);
+        ThreePhases y = Kit.withReplies("", "reply 1 0 1;reply 1 0 2;");
+        Kit.tell(y, 2, NONE, "reply 0 0 1;reply 1 0 1;");
+        Kit.due("by the first text", y.lack(0, 0, 2), 2);
+        Kit.due("not by the second", y.lack(0, 1, 2), 0);
         Kit.due("and back", lack("", "reply 2 0 1;reply 2 0 2;reply 2 0 1;reply 2 0 1;", 2), 4);
     }
 

@@ -160,7 +160,8 @@ final class RunEdges {
         Kit.due("PREPARES", Deeds.has(Deeds.TWO, "propose 0 3 1;propose 2 3 1;", 2, 301), 5);
         Kit.due("PREPARES of the PRIMARY", Deeds.has(Deeds.TWO, "propose 0 3 1;", 0, 301), 1);
         Kit.due("no COMMITS yet", Deeds.has(Deeds.TWO, "propose 0 3 1;", 0, 302), 0);
-        Kit.due("PREPARES in VIEW 1", Deeds.has("order 0 1;liar 1;", Deeds.doubts(1, 2, 3) + "view 1;propose 3 1 0;", 3, 101), 10);
+        String next1 = Deeds.doubts(1, 2, 3) + "view 1;propose 3 1 0;";
+        Kit.due("PREPARES in VIEW 1", Deeds.has("order 0 1;liar 1;", next1, 3, 101), 10);
         Kit.due("others have nothing by it", Deeds.has(Deeds.TWO, "propose 0 3 1;propose 2 3 1;", 1, 300), NONE);
         Doc.says("(o is one of the ORDERS.)");
         Deeds.may("the last ORDER", Deeds.TWO, "propose 0 1 1;");
@@ -339,7 +340,11 @@ final class RunEdges {
         Deeds.cannot("the same", council, once + "mark 0 1;mark 0 1;");
         Deeds.cannot("a LIAR's, the same", council, once + "mark 2 0;mark 2 0;");
         Deeds.may("that of a later CHECKPOINT", council, once + "mark 0 1;" + Deeds.agreed(0, 2, 0, 2, 3) + "run 0;mark 0 1;");
-        Deeds.may("a LIAR's of a later CHECKPOINT", council, once + "mark 2 0;" + Deeds.agreed(0, 2, 0, 2, 3) + "run 0;mark 2 0;");
+        String still = Deeds.PAIR.replace("order 0 5;", "order 0 0;") + "step 1;";
+        Deeds.may("that of a later CHECKPOINT with the same ROOT", still,
+            once + "mark 0 1;" + Deeds.agreed(0, 2, 0, 2, 3) + "run 0;mark 0 1;");
+        Deeds.may("a LIAR's of a later CHECKPOINT", council,
+            once + "mark 2 0;" + Deeds.agreed(0, 2, 0, 2, 3) + "run 0;mark 2 0;");
     }
 
     private static void cuts() {
@@ -353,6 +358,8 @@ final class RunEdges {
         String later = once + "mark 2 0;" + Deeds.agreed(0, 2, 0, 2, 3) + "run 0;mark 3 0;";
         Kit.due("three VOTES of unlike PLACES", Deeds.has(council, later, 0, 2), 0);
         Kit.due("three of the later PLACE", Deeds.has(council, later + "mark 2 0;", 0, 2), 2);
+        String still = Deeds.PAIR.replace("order 0 5;", "order 0 0;") + "step 1;";
+        Kit.due("three VOTES of unlike PLACES and one ROOT", Deeds.has(still, later, 0, 2), 0);
         String split = "propose 1 1 0;prepare 3 1 1;commit 0 1 1;commit 3 1 1;run 1;"
             + "propose 2 1 1;prepare 3 2 1;commit 0 2 1;commit 3 2 1;run 2;mark 2 1;mark 0 1;";
         Kit.due("three VOTES of unlike ROOTS", Deeds.has(Deeds.FALSE_FIRST + "step 1;", split, 1, 2), 0);
@@ -362,6 +369,12 @@ final class RunEdges {
             + "commit 1 0 1;commit 2 0 1;commit 0 1 1;commit 2 1 1;commit 0 3 1;commit 1 3 1;run 0;run 1;mark 0 3;mark 1 3;";
         Kit.due("two of others", Deeds.has(Deeds.TWO + "step 1;", three, 3, 2), 0);
         Kit.due("behind a CHECKPOINT, one's own", Deeds.has(Deeds.TWO + "step 1;", three + "run 3;", 3, 2), 1);
+        String told = three + "commit 0 2 1;commit 1 2 1;run 2;mark 2 3;";
+        String silent = three.replace("mark 0 3;mark 1 3;", "run 3;");
+        ThreePhases x = Kit.with(Deeds.TWO + "step 1;", told);
+        Kit.tell(x, 1, NONE, silent);
+        Kit.due("three of others", x.state(0, 0, Deeds.count(told), 3, 2), 1);
+        Kit.due("in another RUN these do not count", x.state(0, 1, Deeds.count(silent), 3, 2), 0);
         Kit.due("of one alone", Deeds.has(Deeds.ALONE + "step 1;", "propose 0 1 0;run 0;", 0, 2), 1);
         Doc.says("what is ACCEPTED, PROOFS, at PLACES up to there, are no more.");
         String five = "propose 0 1 0;propose 0 2 0;propose 0 3 1;run 0;";
@@ -372,6 +385,13 @@ final class RunEdges {
             Kit.due("at 1, " + k, Deeds.has(Deeds.ALONE, five, 0, whats[k]), gone[k]);
             Kit.due("at LOW, " + k, Deeds.has(Deeds.ALONE, five, 0, 100 + whats[k]), gone[k]);
             Kit.due("above LOW, " + k, Deeds.has(Deeds.ALONE, five, 0, 200 + whats[k]), stays[k]);
+        }
+        StringBuilder twelve = new StringBuilder();
+        for (int s = 1; s <= 12; s++) {
+            twelve.append("propose 0 " + s + " 1;run 0;");
+        }
+        for (int k = 0; k < whats.length; k++) {
+            Kit.due("at the last PLACE, " + k, Deeds.has(Deeds.ALONE, twelve.toString(), 0, 1100 + whats[k]), gone[k]);
         }
         Kit.due("what was RUN at LOW stays", Deeds.has(Deeds.ALONE, five, 0, 207), 0);
     }
@@ -479,6 +499,11 @@ final class RunEdges {
         Kit.due("no other is", Deeds.made("", Deeds.doubts(0, 1, 2) + "view 1;", 2, 0), 0);
     }
 
+    /** LOW is 4, and PLACE 12 is the last of a WINDOW of 9 that there is: VIEW 1 has it. */
+    private static String lastPlace() {
+        return "propose 0 1 0;propose 0 2 0;propose 0 3 0;propose 0 4 0;run 0;propose 0 12 1;doubt 0;view 0;";
+    }
+
     private static void merging() {
         Doc.says("FROM is the greatest LOW of these,");
         String cut = "step 1;";
@@ -490,6 +515,8 @@ final class RunEdges {
         Doc.says("UPTO the greatest PLACE of a PROOF of these, at least FROM;");
         String proofs = Deeds.prepared(0, 1, 0, 2, 3) + Deeds.prepared(0, 3, 1, 2, 3) + "propose 0 4 0;";
         Kit.due("the greatest", Deeds.made(Deeds.PAIR, proofs + Deeds.doubts(0, 1, 2) + "view 1;", 1, 2), 3);
+        Kit.due("the last PLACE", Deeds.made(Deeds.ALONE + "window 9;step 4;", lastPlace(), 1, 2), 12);
+        Kit.due("the ORDER of the last PLACE", Deeds.made(Deeds.ALONE + "window 9;step 4;", lastPlace(), 1, 22), 1);
         Kit.due("not of one that is not of these", Deeds.made(Deeds.PAIR, proofs + Deeds.doubts(1, 2, 3) + "view 1;", 1, 2), 0);
         Kit.due("no PROOF above FROM", Deeds.made(Deeds.PAIR + cut, with, 1, 2), 1);
         Doc.says("each PLACE above FROM, up to UPTO, has the ORDER of the PROOF of greatest VIEW of these,");
@@ -498,6 +525,8 @@ final class RunEdges {
         String without3 = unlike + Deeds.doubts(0, 0, 1, 2) + "view 2;";
         Kit.due("VIEW 1 goes ahead of VIEW 0", Deeds.made(Deeds.FALSE_HEADS, three, 2, 11), 1);
         Kit.due("without it, VIEW 0", Deeds.made(Deeds.FALSE_HEADS, without3, 2, 11), 0);
+        String turned = Deeds.TURNED + Deeds.doubts(0, 2, 3, 3) + "view 2;";
+        Kit.due("VIEW 1 of 0 goes ahead of VIEW 0 of 3", Deeds.made(Deeds.FALSE_HEADS, turned, 2, 11), 1);
         Kit.due("above UPTO there is none", Deeds.made(Deeds.PAIR, proofs + Deeds.doubts(0, 1, 2) + "view 1;", 1, 14), NONE);
         Kit.due("up to FROM there is none", Deeds.made(Deeds.PAIR + cut, with, 1, 11), NONE);
         Doc.says("of several the least ORDER, or NOTHING");
@@ -564,6 +593,7 @@ final class RunEdges {
         Kit.due("PREPARES of a LIAR", Deeds.has(council, high, 1, 201), 0);
         String wide = Deeds.prepared(0, 4, 1, 2, 3) + Deeds.doubts(0, 1, 2) + "view 1;";
         Kit.due("at LOW and WINDOW", Deeds.has(Deeds.PAIR, wide, 1, 400), 1);
+        Kit.due("at the last PLACE", Deeds.has(Deeds.ALONE + "window 9;step 4;", lastPlace(), 0, 1200), 1);
         Kit.due("PREPARES of the PRIMARY", Deeds.has(Deeds.PAIR, wide, 1, 401), 2);
         Kit.due("NOTHING ahead of it", Deeds.has(Deeds.PAIR, wide, 0, 300), 10);
         Kit.due("PREPARED at once, of one alone", Deeds.has(Deeds.ALONE, "propose 0 1 1;doubt 0;view 0;", 0, 105), 1);
@@ -577,6 +607,9 @@ final class RunEdges {
         for (String deed : absent) {
             Deeds.cannot("no such MEMBER", Deeds.TWO, good + deed);
         }
+        String marked = Deeds.agreed(0, 1, 0, 2, 3) + "run 0;";
+        Deeds.cannot("a mark to no such MEMBER", Deeds.PAIR + "step 1;", marked + "mark 0 4;");
+        Deeds.cannot("a mark to no such MEMBER", Deeds.ALONE + "step 1;", "propose 0 1 0;run 0;mark 0 1;");
         Deeds.may("there is one of seven", Deeds.TWO + "faults 2;", good + "doubt 6;");
         Deeds.cannot("there is none but 0 of one", Deeds.ALONE, good + "doubt 1;");
         Deeds.cannot("no such ORDER", Deeds.TWO, good + "propose 0 2 2;");
@@ -593,10 +626,33 @@ final class RunEdges {
         Kit.due("how many there are", Deeds.stopOf(Deeds.TWO, "doubt 0;doubt 0;doubt 1;"), 3);
         Kit.due("40", Deeds.stopOf("faults 2;", Deeds.doubts(0, 1, 2, 3, 4).repeat(8)), 40);
         Doc.says("A STATE is behind the first n DEEDS, n up to STOP.");
+        String far = Deeds.far(2) + Deeds.doubts(0, 1, 2) + "view 1;fetch 1 0;";
+        backwards(Deeds.PAIR, far);
+        backwards(Deeds.PAIR + "step 1;", far);
+        backwards(Deeds.ALONE, "propose 0 1 0;propose 0 3 1;run 0;" + "doubt 0;".repeat(9) + "view 0;run 0;");
         ThreePhases x = Kit.with(Deeds.TWO, "doubt 0;doubt 0;run 0;doubt 0;");
         int[] views = {0, 1, 2, -2, -2};
         for (int n = 0; n <= 4; n++) {
             Kit.due("n " + n, x.state(0, 0, n, 0, 0), views[n]);
+        }
+    }
+
+    /** Asked for in the other direction, of one object, a STATE is what it is of a new one. */
+    private static void backwards(String council, String run) {
+        int members = Kit.with(council, run).quorum(0, 0) > 1 ? 4 : 1;
+        for (int m = 0; m < members; m++) {
+            for (int what : new int[] {0, 1, 2, 3, 4, 5, 6, 100, 101, 102, 105, 107, 200, 201, 202, 205, 207, 306}) {
+                ThreePhases x = Kit.with(council, run);
+                for (int n = Deeds.count(run); n >= 0; n--) {
+                    Kit.due("n " + n + " of " + run, x.state(0, 0, n, m, what), Kit.with(council, run).state(0, 0, n, m, what));
+                }
+            }
+        }
+        ThreePhases x = Kit.with(council, run);
+        for (int n = Deeds.count(run); n >= 0; n--) {
+            for (int view = 1; view <= 9; view++) {
+                Kit.due("VIEW " + view + ", n " + n, x.made(0, 0, n, view, 0), Kit.with(council, run).made(0, 0, n, view, 0));
+            }
         }
     }
 
@@ -719,12 +775,23 @@ final class RunEdges {
         Kit.due("one more than FAULTS", ends(Deeds.FALSE_FIRST, first + alike, 1), 2);
         Kit.due("two, but unlike", ends(Deeds.FALSE_FIRST, first + second, 1), 0);
         Kit.due("FAULTS 0", ends(Deeds.ALONE, "propose 0 1 0;propose 0 2 0;run 0;", 1), 6);
+        StringBuilder twelve = new StringBuilder();
+        for (int s = 1; s <= 12; s++) {
+            twelve.append("propose 0 " + s + " 0;run 0;");
+        }
+        Kit.due("up to the last PLACE", ends(Deeds.ALONE, twelve.toString(), 1), 0x1ffe);
+        Kit.due("NOTHING, too", ends(Deeds.ALONE, "propose 0 2 1;doubt 0;view 0;run 0;", 1), 6);
         Kit.due("not what was fetched", ends(Deeds.PAIR, Deeds.far(2) + Deeds.doubts(0, 1, 2) + "view 1;fetch 1 0;", 1), 0);
         Doc.says("2: the greatest RAN of HONEST ones, 3: the least (of none: 0).");
         String two = Deeds.far(2);
         Kit.due("the greatest", ends(Deeds.PAIR, two, 2), 2);
         Kit.due("the least", ends(Deeds.PAIR, two, 3), 0);
         Kit.due("the least, LIARS do not count", ends(Deeds.PAIR, two + Deeds.doubts(0, 1, 2) + "view 1;fetch 1 0;", 3), 2);
+        Kit.due("the least of one at the last PLACE", ends(Deeds.ALONE, twelve.toString(), 3), 12);
+        Kit.due("the greatest at the last PLACE", ends(Deeds.ALONE, twelve.toString(), 2), 12);
+        String other = "propose 0 1 0;propose 1 1 0;prepare 2 1 1;commit 2 1 1;commit 3 1 1;run 1;";
+        Kit.due("the least is that of 0", ends(Deeds.PAIR, other, 3), 0);
+        Kit.due("the greatest is that of 1", ends(Deeds.PAIR, other, 2), 1);
         String liars = "liar 0;liar 1;liar 2;liar 3;";
         Kit.due("the greatest of none", ends(liars, "doubt 0;", 2), 0);
         Kit.due("the least of none", ends(liars, "doubt 0;", 3), 0);

@@ -154,6 +154,17 @@ final class TextEdges {
         fault(COUNCIL, "step 11;", 2, 5);
         fault(COUNCIL, "order 12;", 1, 8);
         fault(COUNCIL, "st", 1, 0);
+        ThreePhases x = new ThreePhases();
+        Kit.feed(x, "steps 31;");
+        x.end(4);
+        x.text(0, NONE);
+        Kit.due("not beyond the tape's end", x.fault(1), 4);
+        Kit.feed(x, "step 31;");
+        x.end(6);
+        x.text(0, NONE);
+        Kit.due("not beyond the tape's end", x.fault(1), 6);
+        fault(COUNCIL, " ".repeat(596) + "step", 1, 600);
+        fault(COUNCIL, " ".repeat(593) + "step 12", 1, 600);
         Kit.due("PLUS of two digits", Kit.with("order 1 23;").council(0, 30), 23);
         Doc.says("blanks (10, 32) between:");
         isRead(COUNCIL, "\n  step\n\n3 ;  \n liar\n1\n;\n");
@@ -166,6 +177,8 @@ final class TextEdges {
         }
         Doc.says("words, rows of letters a .. z;");
         fault(COUNCIL, "`step 3;", 1, 0);
+        fault(COUNCIL, "stepa 3;", 1, 0);
+        fault(COUNCIL, "stepz 3;", 1, 0);
         fault(COUNCIL, "step{ 3;", 1, 4);
         fault(COUNCIL, "step 3;Liar 1;", 1, 7);
         fault(COUNCIL, "liAr 1;", 1, 0);
@@ -196,6 +209,9 @@ final class TextEdges {
         fault(sort, whole, 1, whole.length());
         fault(sort, whole + " " + whole + ";", 1, whole.length() + 1);
         fault(sort, ";" + whole + ";", 1, 0);
+        for (int k = 0; k < line[0].length(); k++) {
+            fault(sort, whole.substring(0, k) + "q" + whole.substring(k + 1) + ";", 1, 0);
+        }
         for (int other = 0; other < 3; other++) {
             if (other != sort) {
                 fault(other, whole + ";", 1, 0);
@@ -341,6 +357,11 @@ final class TextEdges {
         fault(COUNCIL, "order 0 1;".repeat(10) + " order 0 1;", 3, 101);
         isRead(RUN, "run 0;".repeat(40));
         fault(RUN, "run 0;".repeat(39) + "mark 0 1; \nenter 0;", 3, 245);
+        for (String[] line : LINES) {
+            if (line[1].equals("1")) {
+                fault(RUN, "run 0;".repeat(40) + line[0] + " 1 2 3;".substring(0, 2 * Integer.parseInt(line[2])) + ";", 3, 240);
+            }
+        }
         isRead(REPLIES, "reply 0 0 0;".repeat(12));
         fault(REPLIES, "reply 0 0 0;".repeat(12) + "\nreply 0 0 0;", 3, 145);
         Doc.says("If there is none of these, at the end's place, of a COUNCIL: 4 a MEMBER that was told of and is not there.");
@@ -450,11 +471,30 @@ final class TextEdges {
         Kit.due("of another sort", Kit.tell(x, 1, NONE, "run 5;"), 0);
         Kit.due("in its place", Kit.tell(x, 1, 0, ""), 0);
         Kit.due("it is empty", x.deed(0, NONE, 0), 0);
+        Kit.tell(x, 1, 0, "doubt 0;doubt 1;doubt 2;");
+        Kit.tell(x, 1, 0, "doubt 3;");
+        Kit.due("a shorter one in its place", x.deed(0, NONE, 0), 1);
+        Kit.due("nothing of the longer one is left", x.after(0, 0, 1), 8);
+        Kit.tell(x, 2, NONE, "reply 0 0 1;reply 1 0 1;");
+        Kit.tell(x, 2, NONE, "reply 2 0 1;");
+        Kit.due("nothing of another one is in it", x.reply(1, NONE, 0), 1);
+        Kit.tell(x, 2, 0, "reply 3 0 1;");
+        Kit.due("a shorter one in its place", x.voices(0, 0, 1), 8);
+        Kit.tell(x, 0, 0, "faults 2;window 9;step 4;order 1 1;order 2 2;liar 0;account 3 3;delay 0 1 5;");
+        Kit.tell(x, 0, 0, "order 3 3;");
+        int[][] due = {{0, 1}, {1, 4}, {2, 2}, {4, 1}, {20, 3}, {21, NONE}, {3, 0}, {13, 0}, {101, 1}};
+        for (int[] pair : due) {
+            Kit.due("nothing of the older COUNCIL is left, " + pair[0], x.council(0, pair[0]), pair[1]);
+        }
+        Kit.tell(x, 0, 0, "step 1;");
         Doc.says("NONE: a FAULT IN it.");
         Kit.due("in the place of one", Kit.tell(x, 0, 0, "step 4;step 5;"), NONE);
         Kit.due("that one stays", x.council(0, 2), 1);
+        x = Kit.with("step 1;");
         Kit.due("a further one", Kit.tell(x, 2, NONE, "reply"), NONE);
         Kit.due("there is none", x.count(2), 0);
+        Kit.due("a further one with FAULT 4", Kit.tell(x, 0, NONE, "liar 4;"), NONE);
+        Kit.due("there is none", x.count(0), 1);
         notRead();
     }
 
@@ -614,6 +654,7 @@ final class TextEdges {
         Kit.feed(x, "window 7;");
         Kit.due("image(0)", x.image(0), true);
         Kit.tell(x, 0, 0, "step 4;");
+        Kit.tell(x, 1, 0, "run 4;run 4;");
         Kit.tell(x, 1, NONE, "run 5;");
         Kit.tell(x, 2, 0, "");
         Kit.due("image(2)", x.image(2), true);
